@@ -22,7 +22,7 @@ final class Trees {
         return t;
     }
 
-    /** 8( 13( .. 10( 9( 0, 1 )...: every leaf made beside leaf 0, so that 13 is the lowest inner node, 8 the root. */
+    /** 8( 9( 10( 11( 12( 13( 0, 6 ), 5 ), 4 ), 3 ), 2 ), 1 ): as many leaves and as deep as a tree can be. */
     static BranchTrees seven() {
         BranchTrees t = new BranchTrees(0);
         for (int leaf = 1; leaf < 7; leaf++) {
@@ -34,6 +34,22 @@ final class Trees {
     /** The states at the four sites as they are written: code("0123") is 27. */
     static int code(String digits) {
         return Integer.parseInt(digits, 4);
+    }
+
+    static void setAllCosts(BranchTrees t, int cost) {
+        for (int from = 0; from < 4; from++) {
+            for (int to = 0; to < 4; to++) {
+                t.cost(from, to, cost);
+            }
+        }
+    }
+
+    static void setAllRates(BranchTrees t, int rate) {
+        for (int from = 0; from < 4; from++) {
+            for (int to = 0; to < 4; to++) {
+                t.rate(from, to, rate);
+            }
+        }
     }
 
     /** The parents of the nodes 0 .. 13, in 14 calls. */
