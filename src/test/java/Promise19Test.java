@@ -28,6 +28,16 @@ final class Promise19Test {
         check.same("all after questions", Trees.look(t), before);
     }
 
+    /** One question alone: a second one of the same two nodes could hide that the first one left them swapped. */
+    private static void changesNothing() {
+        BranchTrees t = Trees.five();
+        String before = Trees.look(t);
+        t.keptBy(0, 11);
+        check.same("all after keptBy(0, 11)", Trees.look(t), before);
+        t.keptBy(3, 2);
+        check.same("all after keptBy(3, 2)", Trees.look(t), before);
+    }
+
     private static void ofFewLeaves() {
         BranchTrees t = new BranchTrees(0);
         kept(t, 0, 0, -2);
@@ -70,6 +80,7 @@ final class Promise19Test {
 
     public static void main(String[] args) {
         ofFive();
+        changesNothing();
         ofFewLeaves();
         ofSeven();
         refusals();
