@@ -1,4 +1,4 @@
-/** Promise 1: a new object, and what costs and rates are at first. */
+/** Promise 1: a new object. */
 final class Promise01Test {
     private static final Check check = new Check("Promise01Test");
 
@@ -16,26 +16,24 @@ final class Promise01Test {
         }
     }
 
+    /** "states is the number of the states of leaf 0": of each number 0 .. 255, the first and the last among them. */
     private static void everyGoodNumberIsKept() {
-        for (int code = 0; code < 256; code++) {
-            check.due("new " + code + ", mutate(0, 0)", new BranchTrees(code).mutate(0, 0), code);
+        for (int code = 0; code <= 255; code++) {
+            BranchTrees t = new BranchTrees(code);
+            for (int site = 0; site < 4; site++) {
+                int state = code >> 6 - 2 * site & 3;
+                check.due("new " + code + ", states(0, " + site + ")", t.states(0, site), 1 << state);
+            }
+            check.due("new " + code + ", mutate(0, 0)", t.mutate(0, 0), code);
         }
     }
 
+    /** "a number that is not in 0 .. 255 counts as 0": from -1 down and from 256 up, to the least and greatest int. */
     private static void otherNumbersCountAsZero() {
+        String zero = Trees.all(new BranchTrees(0));
         for (int code : Trees.NO_CODES) {
             check.due("new " + code + ", mutate(0, 5)", new BranchTrees(code).mutate(0, 5), 0);
-        }
-    }
-
-    private static void costsAndRatesAtFirst() {
-        BranchTrees t = new BranchTrees(0);
-        for (int from = 0; from < 4; from++) {
-            for (int to = 0; to < 4; to++) {
-                String pair = "(" + from + ", " + to + ", 7)";
-                check.due("cost" + pair, t.cost(from, to, 7), from == to ? 0 : 1);
-                check.due("rate" + pair, t.rate(from, to, 7), 1);
-            }
+            check.same("all of new " + code, Trees.all(new BranchTrees(code)), zero);
         }
     }
 
@@ -56,7 +54,6 @@ final class Promise01Test {
         leafZeroHasTheStates();
         everyGoodNumberIsKept();
         otherNumbersCountAsZero();
-        costsAndRatesAtFirst();
         objectsShareNothing();
         check.end();
     }

@@ -5,6 +5,7 @@ final class Promise07Test {
     private Promise07Test() {
     }
 
+    /** "otherwise answers the one before": of each change, and of 0 .. 9. */
     private static void answersTheOneBefore() {
         BranchTrees t = new BranchTrees(0);
         for (int from = 0; from < 4; from++) {
@@ -40,32 +41,71 @@ final class Promise07Test {
         check.due("least(0) does not look at rates", t.least(0), 1);
     }
 
-    private static void refusals() {
-        BranchTrees t = Trees.five();
-        t.rate(2, 3, 6);
-        String before = Trees.look(t);
+    private static void refused(int from, int to, int value, int due) {
+        String call = "rate(" + from + ", " + to + ", " + value + ")";
+        check.keeps(1, call, t -> t.rate(from, to, value), due);
+        check.keeps(7, call, t -> t.rate(from, to, value), due);
+    }
+
+    /** "-1 if from or to is not a state": the one, the other, and both. */
+    private static void noState() {
         for (int state : Trees.NO_DIGITS) {
-            check.due("rate(" + state + ", 0, 1)", t.rate(state, 0, 1), -1);
-            check.due("rate(0, " + state + ", 1)", t.rate(0, state, 1), -1);
-            check.due("rate(" + state + ", 3, 10)", t.rate(state, 3, 10), -1);
-            check.due("rate(3, " + state + ", 10)", t.rate(3, state, 10), -1);
+            for (int good = 0; good < 4; good++) {
+                refused(state, good, 5, -1);
+                refused(good, state, 5, -1);
+            }
+            refused(state, state, 5, -1);
         }
-        for (int value : Trees.NO_COSTS) {
-            check.due("rate(2, 3, " + value + ")", t.rate(2, 3, value), -2);
-        }
-        check.same("all after refusals", Trees.look(t), before);
+    }
+
+    /** "-2 if rate is not in 0 .. 9": of every change; 0 and 9 are still good. */
+    private static void outside() {
         for (int from = 0; from < 4; from++) {
             for (int to = 0; to < 4; to++) {
-                int due = from == 2 && to == 3 ? 6 : 1;
+                for (int value : Trees.NO_COSTS) {
+                    refused(from, to, value, -2);
+                }
+                BranchTrees t = Trees.grown(7);
+                String pair = "rate(" + from + ", " + to + ", ";
+                check.due(pair + "0)", t.rate(from, to, 0), Trees.rateOf(from, to));
+                check.due(pair + "9)", t.rate(from, to, 9), 0);
+                check.due(pair + "9) again", t.rate(from, to, 9), 9);
+            }
+        }
+    }
+
+    /** One rate is set, and no other: not that of the change back, nor that of another state. */
+    private static void setsOneAlone() {
+        for (int pair = 0; pair < 16; pair++) {
+            BranchTrees t = Trees.grown(3);
+            t.rate(pair / 4, pair % 4, 9);
+            for (int other = 0; other < 16; other++) {
+                int from = other / 4;
+                int to = other % 4;
+                int due = other == pair ? 9 : Trees.rateOf(from, to);
                 check.due("rate(" + from + ", " + to + ", 0)", t.rate(from, to, 0), due);
             }
+        }
+    }
+
+    /** "the tests are made in the order named". */
+    private static void inTheOrderNamed() {
+        for (int value : Trees.NO_COSTS) {
+            refused(-1, 0, value, -1);
+            refused(0, -1, value, -1);
+            refused(4, 3, value, -1);
+            refused(3, 4, value, -1);
+            refused(4, 4, value, -1);
         }
     }
 
     public static void main(String[] args) {
         answersTheOneBefore();
         changesFromTheParentToTheNode();
-        refusals();
+        noState();
+        outside();
+        setsOneAlone();
+        inTheOrderNamed();
         check.end();
     }
 }

@@ -11,9 +11,8 @@ final class Promise15Test {
         }
     }
 
-    private static void ofFewLeaves() {
+    private static void ofTwoLeaves() {
         BranchTrees t = new BranchTrees(Trees.code("0123"));
-        ways(t, 1, 1, 1, 1);
         t.attach(0, Trees.code("0213"));
         ways(t, 1, 2, 2, 1);
         t.cost(1, 2, 2);
@@ -24,30 +23,68 @@ final class Promise15Test {
     }
 
     private static void ofFive() {
-        BranchTrees t = Trees.five();
-        String before = Trees.look(t);
-        ways(t, 2, 1, 5, 1);
-        for (int site : Trees.NO_DIGITS) {
-            check.due("ways(" + site + ")", t.ways(site), -1);
-        }
-        check.same("all after questions", Trees.look(t), before);
+        ways(Trees.five(), 2, 1, 5, 1);
     }
 
-    private static void whereAllAssignmentsAreBest() {
-        BranchTrees t = Trees.seven();
+    /** A tree of one leaf has one assignment, and that is best, whatever the costs are. */
+    private static void ofOneLeaf() {
+        BranchTrees t = new BranchTrees(Trees.code("0123"));
+        ways(t, 1, 1, 1, 1);
         Trees.setAllCosts(t, 9);
-        ways(t, 4096, 4096, 4096, 4096);
+        ways(t, 1, 1, 1, 1);
         Trees.setAllCosts(t, 0);
-        ways(t, 4096, 4096, 4096, 4096);
-        BranchTrees five = Trees.five();
-        Trees.setAllCosts(five, 4);
-        ways(five, 256, 256, 256, 256);
+        ways(t, 1, 1, 1, 1);
+    }
+
+    /** The most there can be: all assignments, where they all cost the same, least or dearest. */
+    private static void whereAllAssignmentsAreBest() {
+        for (int leaves = 1; leaves <= 7; leaves++) {
+            int most = 1 << 2 * (leaves - 1);
+            BranchTrees t = Trees.grown(leaves);
+            Trees.setAllCosts(t, 9);
+            ways(t, most, most, most, most);
+            Trees.setAllCosts(t, 0);
+            ways(t, most, most, most, most);
+        }
+    }
+
+    /** The least there can be: leaves all alike in a tree of seven have one best assignment. */
+    private static void whereOneIsBest() {
+        BranchTrees t = new BranchTrees(255);
+        for (int leaf = 1; leaf < 7; leaf++) {
+            t.attach(leaf - 1, 255);
+        }
+        ways(t, 1, 1, 1, 1);
+    }
+
+    /** The first site and the last are still good, and change nothing. */
+    private static void ofTheFirstAndTheLastSite() {
+        for (int leaves = 1; leaves <= 7; leaves++) {
+            Model m = Trees.grownModel(leaves);
+            for (int number = 0; number < 4; number++) {
+                int site = number;
+                check.keeps(leaves, "ways(" + site + ")", t -> t.ways(site), m.ways(site));
+            }
+        }
+    }
+
+    /** "-1 if site is not good". */
+    private static void ofNoSite() {
+        for (int leaves = 1; leaves <= 7; leaves++) {
+            for (int site : Trees.NO_DIGITS) {
+                check.keeps(leaves, "ways(" + site + ")", t -> t.ways(site), -1);
+            }
+        }
     }
 
     public static void main(String[] args) {
-        ofFewLeaves();
+        ofTwoLeaves();
         ofFive();
+        ofOneLeaf();
         whereAllAssignmentsAreBest();
+        whereOneIsBest();
+        ofTheFirstAndTheLastSite();
+        ofNoSite();
         check.end();
     }
 }

@@ -11,23 +11,9 @@ final class Promise17Test {
         }
     }
 
-    private static void ofOneLeaf() {
-        BranchTrees t = new BranchTrees(Trees.code("0123"));
-        weights(t, 1, 1, 1, 1);
-        Trees.setAllRates(t, 0);
-        weights(t, 1, 1, 1, 1);
-        t.attach(0, 0);
-        weights(t, 0, 0, 0, 0);
-    }
-
     private static void countsAllAssignmentsAtFirst() {
         BranchTrees t = Trees.five();
-        String before = Trees.look(t);
         weights(t, 256, 256, 256, 256);
-        for (int site : Trees.NO_DIGITS) {
-            check.due("weight(" + site + ")", t.weight(site), -1);
-        }
-        check.same("all after questions", Trees.look(t), before);
         t.cost(0, 1, 9);
         weights(t, 256, 256, 256, 256);
     }
@@ -48,18 +34,55 @@ final class Promise17Test {
         weights(t, 60 + 3 * 7 * 4 * 4, 3 * 7 * 3 * 3, 189, 189);
     }
 
-    private static void theHeaviestTree() {
-        BranchTrees t = Trees.seven();
+    /** A tree of one leaf has one assignment without a change: its weight is 1, whatever the rates are. */
+    private static void ofOneLeaf() {
+        BranchTrees t = new BranchTrees(Trees.code("0123"));
+        weights(t, 1, 1, 1, 1);
+        Trees.setAllRates(t, 0);
+        weights(t, 1, 1, 1, 1);
         Trees.setAllRates(t, 9);
-        long most = 1156831381426176L;
-        weights(t, most, most, most, most);
+        weights(t, 1, 1, 1, 1);
+    }
+
+    /** The least there can be, and the greatest, which past four leaves no int could hold. */
+    private static void theLightestAndTheHeaviestTree() {
+        long[] most = {1, 1, 324, 104976, 34012224, 11019960576L, 3570467226624L, 1156831381426176L};
+        for (int leaves = 2; leaves <= 7; leaves++) {
+            BranchTrees t = Trees.grown(leaves);
+            Trees.setAllRates(t, 0);
+            weights(t, 0, 0, 0, 0);
+            Trees.setAllRates(t, 9);
+            weights(t, most[leaves], most[leaves], most[leaves], most[leaves]);
+        }
+    }
+
+    /** The first site and the last are still good, and change nothing. */
+    private static void ofTheFirstAndTheLastSite() {
+        for (int leaves = 1; leaves <= 7; leaves++) {
+            Model m = Trees.grownModel(leaves);
+            for (int number = 0; number < 4; number++) {
+                int site = number;
+                check.keeps(leaves, "weight(" + site + ")", t -> t.weight(site), m.weight(site));
+            }
+        }
+    }
+
+    /** "-1 if site is not good". */
+    private static void ofNoSite() {
+        for (int leaves = 1; leaves <= 7; leaves++) {
+            for (int site : Trees.NO_DIGITS) {
+                check.keeps(leaves, "weight(" + site + ")", t -> t.weight(site), -1);
+            }
+        }
     }
 
     public static void main(String[] args) {
-        ofOneLeaf();
         countsAllAssignmentsAtFirst();
         goesDownFromTheRoot();
-        theHeaviestTree();
+        ofOneLeaf();
+        theLightestAndTheHeaviestTree();
+        ofTheFirstAndTheLastSite();
+        ofNoSite();
         check.end();
     }
 }

@@ -18,8 +18,11 @@ final class Promise18Test {
         check.due("bestPlace(" + states + ")", t.bestPlace(Trees.code(states)), due);
     }
 
-    private static void theLeastNumberAmongSeveral() {
-        best(new BranchTrees(0), "3333", 0);
+    private static void keeps(int leaves, int states, int due) {
+        check.keeps(leaves, "bestPlace(" + states + ")", t -> t.bestPlace(states), due);
+    }
+
+    private static void ofTwoSides() {
         BranchTrees t = twoSides();
         best(t, "0000", 0);
         best(t, "2222", 0);
@@ -57,37 +60,133 @@ final class Promise18Test {
         check.due("total() there", t.total(), 4);
     }
 
-    private static void changesNothing() {
-        BranchTrees t = Trees.five();
-        String before = Trees.look(t);
-        for (int code = 0; code < 256; code += 51) {
-            t.bestPlace(code);
+    /** The nodes beside which the total would be least, found by making each leaf, as the sum of 2^node. */
+    private static int bestNodes(int leaves, int states) {
+        int least = Integer.MAX_VALUE;
+        int nodes = 0;
+        for (int x : Trees.goodNodes(leaves)) {
+            BranchTrees t = Trees.grown(leaves);
+            t.attach(x, states);
+            int total = t.total();
+            if (total < least) {
+                least = total;
+                nodes = 0;
+            }
+            nodes += total == least ? 1 << x : 0;
         }
-        for (int code : Trees.NO_CODES) {
-            check.due("bestPlace(" + code + ")", t.bestPlace(code), -1);
-        }
-        check.same("all after questions", Trees.look(t), before);
-        check.due("attach(11, 0)", t.attach(11, 0), 5);
-        check.due("parent(5)", t.parent(5), 12);
+        return nodes;
     }
 
+    /** "beside which a new leaf with these states would make the total least": of each number 0 .. 255. */
+    private static void ofEveryGoodNumber() {
+        for (int leaves = 1; leaves <= 6; leaves++) {
+            BranchTrees t = Trees.grown(leaves);
+            for (int states = 0; states <= 255; states++) {
+                int due = Integer.numberOfTrailingZeros(bestNodes(leaves, states));
+                check.due("bestPlace(" + states + ") of " + leaves + " leaves", t.bestPlace(states), due);
+            }
+            check.kept(leaves, "bestPlace(0) .. bestPlace(50)", firstFifty(leaves));
+        }
+    }
+
+    /** Apart, since with 256 questions before it an object has no calls left to be asked all. */
+    private static BranchTrees firstFifty(int leaves) {
+        BranchTrees t = Trees.grown(leaves);
+        for (int states = 0; states <= 50; states++) {
+            t.bestPlace(states);
+        }
+        return t;
+    }
+
+    private static void amongSeveral(int states, int due, int... nodes) {
+        int set = 0;
+        for (int node : nodes) {
+            set += 1 << node;
+        }
+        check.due("the best nodes for " + states, bestNodes(6, states), set);
+        keeps(6, states, due);
+    }
+
+    /** "the least number among several": leaves, a leaf and an inner node, inner nodes; and where there is but one. */
+    private static void theLeastNumberAmongSeveral() {
+        amongSeveral(144, 3, 3, 4);
+        amongSeveral(24, 0, 0, 4);
+        amongSeveral(168, 0, 0, 4, 8);
+        amongSeveral(41, 5, 5, 11);
+        amongSeveral(5, 11, 11, 12);
+        amongSeveral(9, 5, 5);
+        amongSeveral(64, 10, 10);
+        amongSeveral(4, 12, 12);
+    }
+
+    /** Where all nodes are as good, it is leaf 0, at the least and at the greatest totals. */
+    private static void allNodesAsGood() {
+        for (int leaves = 1; leaves <= 6; leaves++) {
+            BranchTrees t = Trees.grown(leaves);
+            Trees.setAllCosts(t, 0);
+            check.due("bestPlace(255), all costs 0", t.bestPlace(255), 0);
+            Trees.setAllCosts(t, 9);
+            check.due("bestPlace(0), all costs 9", t.bestPlace(0), 0);
+        }
+    }
+
+    /** A tree of one leaf has one place. */
+    private static void ofOneLeaf() {
+        for (int states : new int[] {0, 1, 27, 254, 255}) {
+            keeps(1, states, 0);
+        }
+    }
+
+    /** "-1 if states is not in 0 .. 255". */
+    private static void statesOutside() {
+        for (int leaves = 1; leaves <= 6; leaves++) {
+            for (int states : Trees.NO_CODES) {
+                keeps(leaves, states, -1);
+            }
+        }
+    }
+
+    /** "-2 if there are 7 leaves": with six there is still a place. */
     private static void ofAFullTree() {
-        BranchTrees t = Trees.seven();
-        String before = Trees.look(t);
-        check.due("bestPlace(0), full", t.bestPlace(0), -2);
-        check.due("bestPlace(255), full", t.bestPlace(255), -2);
-        check.due("bestPlace(256), full", t.bestPlace(256), -1);
-        check.due("bestPlace(-1), full", t.bestPlace(-1), -1);
-        check.same("all after refusals", Trees.look(t), before);
+        keeps(6, 0, Integer.numberOfTrailingZeros(bestNodes(6, 0)));
+        keeps(6, 255, Integer.numberOfTrailingZeros(bestNodes(6, 255)));
+        for (int states : new int[] {0, 1, 114, 254, 255}) {
+            keeps(7, states, -2);
+        }
+    }
+
+    /** "the tests are made in the order named". */
+    private static void inTheOrderNamed() {
+        for (int states : Trees.NO_CODES) {
+            keeps(7, states, -1);
+        }
+    }
+
+    /** "No question changes anything": the leaf that was only thought of is not made, nor its inner node. */
+    private static void makesNoLeaf() {
+        BranchTrees t = Trees.five();
+        t.bestPlace(255);
+        check.due("leaves()", t.leaves(), 5);
+        check.due("parent(5)", t.parent(5), -1);
+        check.due("parent(12)", t.parent(12), -1);
+        check.due("attach(11, 0)", t.attach(11, 0), 5);
+        check.due("parent(5)", t.parent(5), 12);
+        check.due("mutate(5, 1)", t.mutate(5, 1), 0);
     }
 
     public static void main(String[] args) {
-        theLeastNumberAmongSeveral();
+        ofTwoSides();
         besideItsLike();
         allSitesTogether();
         anInnerNodeWhereItIsBest();
-        changesNothing();
+        ofEveryGoodNumber();
+        theLeastNumberAmongSeveral();
+        allNodesAsGood();
+        ofOneLeaf();
+        statesOutside();
         ofAFullTree();
+        inTheOrderNamed();
+        makesNoLeaf();
         check.end();
     }
 }
