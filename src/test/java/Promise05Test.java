@@ -37,7 +37,10 @@ final class Promise05Test {
         moved(3, 0, 8, "10 9 11 10 11 -1 -1 -1 -2 8 8 9 -1 -1");
     }
 
-    /** Beside x's sibling, which is not refused: p comes back to its place, and all is as before. */
+    /**
+     * "-3 if y is x, below x, or x's parent; otherwise 0": x's sibling is none of these. p comes back to its place,
+     * and all is as before.
+     */
     private static void besideTheSibling() {
         int[][] siblings = {{8, 3}, {13, 12}, {0, 6}, {9, 5}, {1, 11}, {2, 4}};
         for (int[] pair : siblings) {
